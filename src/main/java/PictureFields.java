@@ -156,7 +156,7 @@ public final class PictureFields {
     /** The field of the first kind that the symbols fit, or null; place is still free. */
     private Field fittingField(int place, int usage) {
         if (numbers[place].fits(symbols)) {
-            return numbers[place].hasUsage(usage) ? numbers[place] : null;
+            return numbers[place].takesUsage(usage) ? numbers[place] : null;
         }
         if (usage != 0) {
             return null;
@@ -180,12 +180,15 @@ public final class PictureFields {
         return c >= '0' && c <= '9';
     }
 
-    /** The symbols of a picture, each as often as its number says; C stands for CR and D for DB. */
+    /**
+     * The symbols of a picture, each as often as its number says; C stands for CR and D for DB.
+     * Other characters are taken for symbols too: no kind has them, so the kinds refuse them.
+     */
     private static final class Symbols {
         private final int[] row = new int[MOST_SYMBOLS];
         private int count;
 
-        /** Whether the text is made of symbols alone, and not of too many. */
+        /** Whether the text has symbols, all numbers are right, and there are not too many. */
         boolean expand(int[] text, int length) {
             count = 0;
             int at = 0;
@@ -205,9 +208,6 @@ public final class PictureFields {
             if (symbol == 'C' || symbol == 'D') {
                 int second = symbol == 'C' ? 'R' : 'B';
                 return next == second && append(symbol, 1) ? at + 2 : NONE;
-            }
-            if (!isSymbol(symbol)) {
-                return NONE;
             }
             if (next != '(') {
                 return append(symbol, 1) ? at + 1 : NONE;
@@ -248,30 +248,6 @@ public final class PictureFields {
                 count++;
             }
             return true;
-        }
-
-        private static boolean isSymbol(int c) {
-            switch (c) {
-                case 'S':
-                case '9':
-                case 'V':
-                case 'P':
-                case 'X':
-                case 'A':
-                case 'Z':
-                case '*':
-                case '+':
-                case '-':
-                case '$':
-                case '.':
-                case ',':
-                case 'B':
-                case '0':
-                case '/':
-                    return true;
-                default:
-                    return false;
-            }
         }
 
         int symbolAt(int k) {
@@ -343,19 +319,20 @@ public final class PictureFields {
         boolean fits(Symbols symbols) {
             signed = symbols.symbolAt(0) == 'S';
             int start = signed ? 1 : 0;
-            boolean fitting = isUnscaled(symbols, start)
-                    || isScaledBefore(symbols, start)
-                    || isScaledBehind(symbols, start);
+            boolean fitting = fitsUnscaled(symbols, start)
+                    || fitsScaledBefore(symbols, start)
+                    || fitsScaledBehind(symbols, start);
             return fitting && before + behind <= MOST_DIGITS;
         }
 
-        boolean hasUsage(int usage) {
+        /** Whether a number has such a usage; if so, the field has it now. */
+        boolean takesUsage(int usage) {
             packed = usage == 1;
             size = packed ? nines / 2 + 1 : nines;
             return usage == 0 || usage == 1;
         }
 
-        private boolean isUnscaled(Symbols symbols, int start) {
+        private boolean fitsUnscaled(Symbols symbols, int start) {
             int point = symbols.runEnd('9', start);
             int fraction = symbols.symbolAt(point) == 'V' ? point + 1 : point;
             int end = symbols.runEnd('9', fraction);
@@ -366,7 +343,7 @@ public final class PictureFields {
             return nines > 0 && end == symbols.count;
         }
 
-        private boolean isScaledBefore(Symbols symbols, int start) {
+        private boolean fitsScaledBefore(Symbols symbols, int start) {
             boolean pointFirst = symbols.symbolAt(start) == 'V';
             int scaling = pointFirst ? start + 1 : start;
             int scaled = symbols.runEnd('P', scaling);
@@ -380,7 +357,7 @@ public final class PictureFields {
             return scaled > scaling && nines > 0 && end == symbols.count;
         }
 
-        private boolean isScaledBehind(Symbols symbols, int start) {
+        private boolean fitsScaledBehind(Symbols symbols, int start) {
             int kept = symbols.runEnd('9', start);
             boolean pointFirst = symbols.symbolAt(kept) == 'V';
             int scaling = pointFirst ? kept + 1 : kept;

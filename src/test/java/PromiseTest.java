@@ -61,6 +61,12 @@ public final class PromiseTest {
         PictureFields z = new PictureFields();
         Checks.due("2: a large character", z.type(65536 + '9'), true);
         Checks.due("2: it is no 9", Checks.answer(() -> z.declare(0)), ARGUMENT);
+        for (int c : new int[] {-1, 0, 32, 127, 255, 65536 + 'X', Integer.MIN_VALUE, Integer.MAX_VALUE}) {
+            PictureFields v = Checks.with("X");
+            v.type('9');
+            v.type(c);
+            Checks.due("2: 9 and " + c, Checks.answer(() -> v.declare(0)), ARGUMENT);
+        }
         PictureFields w = new PictureFields();
         Checks.type(w, "X".repeat(24));
         w.type('q');
@@ -103,6 +109,10 @@ public final class PromiseTest {
         for (String picture : none) {
             Checks.due("3: " + picture, Checks.declare(new PictureFields(), picture, 0), ARGUMENT);
         }
+        PictureFields x = Checks.with("9(12)");
+        Checks.due("3: what stood behind it is no part of it", Checks.declare(x, "9(12", 0), ARGUMENT);
+        Checks.declare(x, "9(1)", 0);
+        Checks.due("3: nor here", Checks.declare(x, "9(1", 0), ARGUMENT);
         looks("9(2)", "0 2 2 0 0");
         looks("9(02)", "0 2 2 0 0");
         looks("9(12)", "0 12 12 0 0");
@@ -428,6 +438,10 @@ public final class PromiseTest {
         move("S9(3)V99", 0, "1234u", "$$$,$$9.99-", "   $123.45-");
         move("S99PP", 0, "3t", "S9(5)", "0340p");
         move("VPP9", 0, "7", "9V9(4)", "00070");
+        move("V9(12)", 0, "123456789012", "9(12)", "000000000000");
+        move("9(12)", 0, "123456789012", "V9(12)", "000000000000");
+        move("SV9(12)", 0, "12345678901r", "S9V9(11)", "01234567890q");
+        move("9(12)", 0, "123456789012", "9P(11)", "1");
         move("99", 0, hex("FF4C"), "99", "52");
         move("S9(3)", 1, hex("123B"), "-9(3)", "-123");
         move("S9(3)", 1, hex("123D"), "-9(3)", "-123");
