@@ -3,6 +3,10 @@ import java.util.function.LongSupplier;
 /** Counts what is not as due, and the small words that every test says to a PictureFields. */
 final class Checks {
     static final String DONE = "done";
+    static final String ARGUMENT = "IllegalArgumentException";
+    static final String STATE = "IllegalStateException";
+    static final String ELEMENT = "NoSuchElementException";
+    static final String UNSUPPORTED = "UnsupportedOperationException";
     private static int wrong = 0;
     private static int made = 0;
 
@@ -93,5 +97,58 @@ final class Checks {
         for (int k = 0; k < text.length(); k++) {
             x.set(field, k, text.charAt(k));
         }
+    }
+
+    static void areNone(String label, String... pictures) {
+        for (String picture : pictures) {
+            due(label + ": " + picture, declare(new PictureFields(), picture, 0), ARGUMENT);
+        }
+    }
+
+    /** That each is the picture of a field of that kind. */
+    static void areOfKind(String label, int kind, String... pictures) {
+        for (String picture : pictures) {
+            due(label + ": kind of " + picture, with(picture).look(0, 0), kind);
+        }
+    }
+
+    static void looks(String label, String picture, String want) {
+        due(label + ": looks of " + picture, looks(with(picture), 0), want);
+    }
+
+    static void put(String label, String picture, long v, int scale, String want) {
+        PictureFields x = with(picture);
+        x.put(0, v, scale);
+        due(label + ": put " + v + ", " + scale + " to " + picture, bytes(x, 0), want);
+    }
+
+    static void putPacked(String label, String picture, long v, String want) {
+        PictureFields x = with(picture, 1);
+        x.put(0, v, 0);
+        due(label + ": put " + v + " to packed " + picture, hex(x, 0), want);
+    }
+
+    static void move(String label, String from, String bytes, String to, String want) {
+        PictureFields x = with(from);
+        declare(x, to, 0);
+        setAll(x, 0, bytes);
+        due(label + ": move " + from + " to " + to, outcome(() -> x.move(0, 1)), DONE);
+        due(label + ": " + bytes + " of " + from + " in " + to, bytes(x, 1), want);
+        due(label + ": " + from + " is as before", bytes(x, 0), bytes);
+    }
+
+    static void value(String label, String picture, int usage, String bytes, long want) {
+        PictureFields x = with(picture, usage);
+        setAll(x, 0, bytes);
+        due(label + ": value of " + bytes + " in " + picture, x.value(0), want);
+    }
+
+    /** The characters whose numbers the pairs of hexadecimal digits are. */
+    static String unhex(String pairs) {
+        StringBuilder all = new StringBuilder();
+        for (int k = 0; k < pairs.length(); k += 2) {
+            all.append((char) Integer.parseInt(pairs.substring(k, k + 2), 16));
+        }
+        return all.toString();
     }
 }

@@ -3,10 +3,10 @@ import static java.lang.Long.MIN_VALUE;
 
 /** Each promise of the document by itself: ordinary inputs, the edges it names, wrong inputs. */
 public final class PromiseTest {
-    private static final String ARGUMENT = "IllegalArgumentException";
-    private static final String STATE = "IllegalStateException";
-    private static final String ELEMENT = "NoSuchElementException";
-    private static final String UNSUPPORTED = "UnsupportedOperationException";
+    private static final String ARGUMENT = Checks.ARGUMENT;
+    private static final String STATE = Checks.STATE;
+    private static final String ELEMENT = Checks.ELEMENT;
+    private static final String UNSUPPORTED = Checks.UNSUPPORTED;
 
     private PromiseTest() {
     }
@@ -106,9 +106,7 @@ public final class PromiseTest {
         String[] none = {"", "s9", "x", "9 ", "9(", "9()", "9(0)", "9(00)", "9(1", "9(1(", "9(123)", "9(a)", "9(1a)",
             "9(-1)", "(2)9", "9(1)(1)", "9)", "C", "D", "9C", "9D", "9R", "9CB", "9DR", "9CR(1)", "9DB(1)", "9C(1)R",
             "X(25)", "X(24)A", "9(12)B(12)CR", "9(12)B(13)", "CR", "DB", "9CRCR", "9DBCR"};
-        for (String picture : none) {
-            Checks.due("3: " + picture, Checks.declare(new PictureFields(), picture, 0), ARGUMENT);
-        }
+        Checks.areNone("3", none);
         PictureFields x = Checks.with("9(12)");
         Checks.due("3: what stood behind it is no part of it", Checks.declare(x, "9(12", 0), ARGUMENT);
         Checks.declare(x, "9(1)", 0);
@@ -129,9 +127,7 @@ public final class PromiseTest {
         String[] none = {"S", "V", "P", "SV", "VP", "S9S", "9S", "SS9", "S(2)9", "9V9V", "VV9", "PVP9", "9PVP", "P9V",
             "P9V9", "9P9", "P9P", "V9P", "9V9P", "VPV9", "9VPV", "V9PP", "PP", "9(13)", "9(12)P", "P9(12)", "9(7)V9(6)",
             "S9(13)", "VP(12)9"};
-        for (String picture : none) {
-            Checks.due("3: " + picture, Checks.declare(new PictureFields(), picture, 0), ARGUMENT);
-        }
+        Checks.areNone("3", none);
         looks("9", "0 1 1 0 0");
         looks("S9(3)V99", "0 5 3 2 1");
         looks("V99", "0 2 0 2 0");
@@ -156,9 +152,7 @@ public final class PromiseTest {
 
     private static void promise3Texts() {
         String[] none = {"XS", "XV", "XZ", "XB", "X.", "AP", "9(23)XX", "X0"};
-        for (String picture : none) {
-            Checks.due("3: " + picture, Checks.declare(new PictureFields(), picture, 0), ARGUMENT);
-        }
+        Checks.areNone("3", none);
         looks("X", "1 1 0 0 0");
         looks("A", "1 1 0 0 0");
         looks("9X", "1 2 0 0 0");
@@ -172,9 +166,7 @@ public final class PromiseTest {
             "$$--", "ZP", "ZS9", "ZX", "9.9.", "9.9V", "9V.9", "ZVVZ", ".Z", ".ZZ", "V**", ".$$", ".++9", "Z9.Z", "Z.9Z",
             "Z.Z9", "ZZ.9ZZ", "$9.$", "++-", "-++", "--9+", "--CR", "++DB", "+--9", "9.9Z", "9Z.99", "Z(13)", "9(13)B",
             "9CRB", "CR9", "9DB9", "$(14)", "Z(7).Z(6)", "9,Z", "$Z$", "+(1)-(1)9"};
-        for (String picture : none) {
-            Checks.due("3: " + picture, Checks.declare(new PictureFields(), picture, 0), ARGUMENT);
-        }
+        Checks.areNone("3", none);
         looks("9.", "2 2 1 0 0");
         looks(".9", "2 2 0 1 0");
         looks("9B", "2 2 1 0 0");
@@ -442,13 +434,13 @@ public final class PromiseTest {
         move("9(12)", 0, "123456789012", "V9(12)", "000000000000");
         move("SV9(12)", 0, "12345678901r", "S9V9(11)", "01234567890q");
         move("9(12)", 0, "123456789012", "9P(11)", "1");
-        move("99", 0, hex("FF4C"), "99", "52");
-        move("S9(3)", 1, hex("123B"), "-9(3)", "-123");
-        move("S9(3)", 1, hex("123D"), "-9(3)", "-123");
-        move("S9(3)", 1, hex("123A"), "-9(3)", " 123");
-        move("9(3)", 1, hex("123D"), "-9(3)", " 123");
-        move("9(4)", 1, hex("51234F"), "9(5)", "01234");
-        move("9(3)", 0, hex("313273"), "-9(3)", " 123");
+        move("99", 0, Checks.unhex("FF4C"), "99", "52");
+        move("S9(3)", 1, Checks.unhex("123B"), "-9(3)", "-123");
+        move("S9(3)", 1, Checks.unhex("123D"), "-9(3)", "-123");
+        move("S9(3)", 1, Checks.unhex("123A"), "-9(3)", " 123");
+        move("9(3)", 1, Checks.unhex("123D"), "-9(3)", " 123");
+        move("9(4)", 1, Checks.unhex("51234F"), "9(5)", "01234");
+        move("9(3)", 0, Checks.unhex("313273"), "-9(3)", " 123");
         PictureFields x = Checks.with("S9(3)");
         Checks.setAll(x, 0, "abp");
         x.move(0, 0);
@@ -467,7 +459,7 @@ public final class PromiseTest {
         move("9/9", 0, "1-2", "S99", "1r");
         move("90909", 0, "17283", "9(3)", "123");
         move("9(3)", 0, "a1b", "9(3)", "112");
-        move("9B9B9", 0, hex("6120312000"), "9(3)", "010");
+        move("9B9B9", 0, Checks.unhex("6120312000"), "9(3)", "010");
         move("$$$", 0, "789", "9(3)", "089");
         move("99V99B", 0, "1234 ", "99.9", "12.3");
         move("**.**", 0, "**.05", "$$.$$", " $.05");
@@ -484,10 +476,10 @@ public final class PromiseTest {
         move("X(3)", 0, "abc", "X(5)", "abc  ");
         move("X(5)", 0, "abcde", "A9X", "abc");
         move("+99.9", 0, "+12.3", "X(6)", "+12.3 ");
-        move("+99.9", 0, hex("00FF616263"), "X(4)", hex("00FF6162"));
+        move("+99.9", 0, Checks.unhex("00FF616263"), "X(4)", Checks.unhex("00FF6162"));
         move("9(4)", 0, "0056", "X(5)", "0056 ");
         move("9(4)", 0, "1256", "X(3)", "125");
-        move("S99P(2)", 1, hex("034D"), "X(6)", "3400  ");
+        move("S99P(2)", 1, Checks.unhex("034D"), "X(6)", "3400  ");
         move("S9(3)", 0, "12s", "X(3)", "123");
         move("9(12)B(11)CR", 0, "123456789012           CR", "X(24)", "123456789012           C");
         move("X(5)", 0, "12a45", "9(5)", "12045");
@@ -526,10 +518,10 @@ public final class PromiseTest {
         value("S9", 0, "p", 0);
         value("99PP", 0, "34", 3400);
         value("SP(2)9", 0, "s", -3);
-        value("9(3)", 0, hex("3F0A0B"), 501);
-        value("S9(3)", 1, hex("FBCD"), -512);
-        value("S9(4)", 1, hex("91234B"), -1234);
-        value("S9(12)", 1, hex("0999999999999D"), -999999999999L);
+        value("9(3)", 0, Checks.unhex("3F0A0B"), 501);
+        value("S9(3)", 1, Checks.unhex("FBCD"), -512);
+        value("S9(4)", 1, Checks.unhex("91234B"), -1234);
+        value("S9(12)", 1, Checks.unhex("0999999999999D"), -999999999999L);
         value("9(12)", 0, "999999999999", 999999999999L);
         value("ZZ9.99CR", 0, "  1.05CR", -105);
         value("ZZ9.99", 0, " -1.05", -105);
@@ -543,30 +535,16 @@ public final class PromiseTest {
         Checks.due("11: field -1", Checks.answer(() -> x.value(-1)), ELEMENT);
     }
 
-    /** The characters whose numbers the pairs of digits are. */
-    private static String hex(String pairs) {
-        StringBuilder all = new StringBuilder();
-        for (int k = 0; k < pairs.length(); k += 2) {
-            all.append((char) Integer.parseInt(pairs.substring(k, k + 2), 16));
-        }
-        return all.toString();
-    }
-
     private static void looks(String picture, String want) {
-        PictureFields x = Checks.with(picture);
-        Checks.due("3: looks of " + picture, Checks.looks(x, 0), want);
+        Checks.looks("3", picture, want);
     }
 
     private static void put(String picture, long v, int scale, String want) {
-        PictureFields x = Checks.with(picture);
-        x.put(0, v, scale);
-        Checks.due("9: put " + v + ", " + scale + " to " + picture, Checks.bytes(x, 0), want);
+        Checks.put("9", picture, v, scale, want);
     }
 
     private static void putPacked(String picture, long v, String want) {
-        PictureFields x = Checks.with(picture, 1);
-        x.put(0, v, 0);
-        Checks.due("9: put " + v + " to packed " + picture, Checks.hex(x, 0), want);
+        Checks.putPacked("9", picture, v, want);
     }
 
     private static void move(String from, int usage, String bytes, String to, String want) {
@@ -585,8 +563,6 @@ public final class PromiseTest {
     }
 
     private static void value(String picture, int usage, String bytes, long want) {
-        PictureFields x = Checks.with(picture, usage);
-        Checks.setAll(x, 0, bytes);
-        Checks.due("11: value of " + bytes + " in " + picture, x.value(0), want);
+        Checks.value("11", picture, usage, bytes, want);
     }
 }
