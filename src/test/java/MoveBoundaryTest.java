@@ -26,6 +26,7 @@ public final class MoveBoundaryTest {
         floatingStandsAtTheZonesEnd();
         allDigits0();
         allDigits0WithStars();
+        longestFields();
         signsOfAllSorts();
         readsDigitsInTheirPlaces();
         readsAMinusAnywhere();
@@ -361,6 +362,21 @@ public final class MoveBoundaryTest {
         Checks.put(label, "*.*CR", -1, 2, "*.***");
         Checks.put(label, "*-", 0, 0, "**");
         Checks.due(label + ": new", Checks.bytes(Checks.with("$*,*.*B"), 0), "****.**");
+    }
+
+    private static void longestFields() {
+        String label = "a field of 24 symbols";
+        Checks.put(label, "Z(12)B(12)", 0, 0, " ".repeat(24));
+        Checks.put(label, "Z(12)B(11)CR", 0, 0, " ".repeat(25));
+        Checks.put(label, "Z(12)/(11)CR", -1, 0, " ".repeat(11) + "1///////////CR");
+        Checks.put(label, "*(12)B(12)", 0, 0, "*".repeat(24));
+        Checks.put(label, "*(12)B(11)CR", 0, 0, "*".repeat(25));
+        Checks.put(label, "*(12)B(11).", 0, 0, "*".repeat(23) + ".");
+        Checks.put(label, "$(13)B(11)", 0, 0, " ".repeat(24));
+        Checks.put(label, "$(13)B(11)", 1, 0, " ".repeat(11) + "$1" + " ".repeat(11));
+        Checks.put(label, "B(11)+(13)", -1, 0, " ".repeat(22) + "-1");
+        Checks.put(label, "+$/(9)Z(12)V", 1, 0, "+$/////////" + " ".repeat(11) + "1");
+        Checks.put(label, "9(12)VB(10)DB", -1, 0, "000000000001" + " ".repeat(10) + "DB");
     }
 
     private static void signsOfAllSorts() {
